@@ -46,10 +46,17 @@ final class Twins {
             Told due = new Told(maker.made());
             later.ask(got);
             later.ask(due);
-            for (int i = 0; i < due.answers.size(); i++) {
-                int here = i;
-                checks.due("behind " + what + ", " + due.calls.get(i), due.answers.get(i),
-                    () -> here < got.answers.size() ? got.answers.get(here) : "nothing");
+            compare("behind " + what + ", ", got, due);
+        }
+    }
+
+    /** Up to the first difference: behind it, both may have been asked something else. */
+    private void compare(String behind, Told got, Told due) {
+        for (int i = 0; i < due.answers.size(); i++) {
+            String answer = i < got.answers.size() ? got.answers.get(i) : "nothing";
+            checks.due(behind + due.calls.get(i), due.answers.get(i), () -> answer);
+            if (!answer.equals(due.answers.get(i))) {
+                return;
             }
         }
     }
