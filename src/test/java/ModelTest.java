@@ -6,6 +6,9 @@ import java.util.Random;
 public final class ModelTest {
     private static final Checks CHECKS = new Checks("ModelTest");
     private static final int RUNS = 400;
+    private static final int FULL_RUNS = 12;
+    private static final int MOST_CALLS = 512;
+    private static final int MOST_TRIES = 2000;
 
     private final Random chance;
     private final SliceBlocks real;
@@ -29,6 +32,9 @@ public final class ModelTest {
         for (long seed = 0; seed < RUNS && !CHECKS.hasFaults(); seed++) {
             new ModelTest(seed).run();
         }
+        for (long seed = RUNS; seed < RUNS + FULL_RUNS && !CHECKS.hasFaults(); seed++) {
+            new ModelTest(seed).fullRun();
+        }
         CHECKS.end();
     }
 
@@ -43,6 +49,44 @@ public final class ModelTest {
             }
         }
         closeLook();
+    }
+
+    /** As many blocks, slices, nets, tries and calls as one object may have. */
+    private void fullRun() {
+        // Some calls have wrong sides, or the same block twice: so there are more than it takes.
+        for (int i = 0; i < 2 * Floors.MOST_BLOCKS && !CHECKS.hasFaults(); i++) {
+            block();
+        }
+        for (int i = 0; i < Floors.MOST_THINGS_THERE_CAN_BE && !CHECKS.hasFaults(); i += 2) {
+            slice(i, i + 1);
+        }
+        for (int i = 0; i < 2 * Floors.MOST_NETS && !CHECKS.hasFaults(); i++) {
+            net();
+        }
+        for (int i = 0; i < 4 && !CHECKS.hasFaults(); i++) {
+            fix();
+            pair(MOST_TRIES);
+        }
+        CHECKS.due("the last slice is there", true, () -> wasAnswered("slice.* -> 30"));
+        CHECKS.due("the last net is there", true, () -> wasAnswered("net.* -> 39"));
+        while (calls.size() <= MOST_CALLS && !CHECKS.hasFaults()) {
+            look();
+        }
+    }
+
+    private boolean wasAnswered(String pattern) {
+        return calls.stream().anyMatch(call -> call.matches(pattern));
+    }
+
+    private void look() {
+        int block = chance.nextInt(Floors.MOST_BLOCKS);
+        switch (chance.nextInt(5)) {
+            case 0: placeOf(block, chance.nextInt(2)); break;
+            case 1: turned(block); break;
+            case 2: pin(block, chance.nextInt(4), chance.nextInt(2)); break;
+            case 3: outline(); break;
+            default: shape(chance.nextInt(Floors.MOST_THINGS_THERE_CAN_BE), small(), chance.nextInt(2)); break;
+        }
     }
 
     /** Everything that can be asked, of every block. */
@@ -119,8 +163,10 @@ public final class ModelTest {
     }
 
     private void slice() {
-        int a = chance.nextInt(32);
-        int b = chance.nextInt(32);
+        slice(chance.nextInt(32), chance.nextInt(32));
+    }
+
+    private void slice(int a, int b) {
         boolean across = chance.nextBoolean();
         same("slice(" + a + ", " + b + ", " + across + ")",
             () -> real.slice(a, b, across), () -> model.slice(a, b, across));
@@ -142,7 +188,10 @@ public final class ModelTest {
     }
 
     private void pair() {
-        int tries = chance.nextInt(30) == 0 ? chance.nextInt(3) * 1001 - 1 : chance.nextInt(mostTries + 1);
+        pair(chance.nextInt(30) == 0 ? chance.nextInt(3) * 1001 - 1 : chance.nextInt(mostTries + 1));
+    }
+
+    private void pair(int tries) {
         same("pair(" + tries + ")", () -> real.pair(tries), () -> model.pair(tries));
         whole();
     }

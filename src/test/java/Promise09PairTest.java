@@ -97,7 +97,7 @@ public final class Promise09PairTest {
         duePlaces(x, "0,0", "1,0", "4,0");
     }
 
-    static void promise9_theGreatestArea() {
+    static void promise9_theAreaOfTheLongestRowFromTheFarthestCorner() {
         SliceBlocks x = Floors.row(16, 1000, 1000);
         x.fix(0, 20000, 20000);
         CHECKS.due("pair(0)", 36000 * 21000, () -> x.pair(0));
